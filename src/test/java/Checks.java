@@ -32,6 +32,11 @@ final class Checks {
         report(call, got.equals(want), got, want);
     }
 
+    /** For an answer that was compared already. */
+    static void right() {
+        checked++;
+    }
+
     private static void report(String call, boolean right, String got, String want) {
         checked++;
         if (!right) {

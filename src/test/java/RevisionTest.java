@@ -128,7 +128,6 @@ public final class RevisionTest {
         Checks.due("agree(1, 1)", s.agree(1, 1), true);
         Checks.due("agree(0, 1)", s.agree(0, 1), false);
         s.copy(1, 0);
-        s.compact(1);
         Checks.due("agree(0, 1) with other bodies and stamps", s.agree(0, 1), true);
         Checks.due("agree(1, 0)", s.agree(1, 0), true);
         s.edit(0, 0, 1);
