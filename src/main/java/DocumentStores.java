@@ -423,7 +423,7 @@ public final class DocumentStores {
         // the paths themselves need not be kept.
         int left = a;
         int right = b;
-        for (int step = 0; step < REVISIONS && parents[left] != parents[right]; step++) {
+        for (int g = generations[a]; g > 1 && parents[left] != parents[right]; g--) {
             left = parents[left];
             right = parents[right];
         }
