@@ -35,9 +35,12 @@ public final class ChangeEdgesTest {
         copyOfAPurgedDocument();
         copyInTheOrderOfTheStamps();
         copyOfEightyRevisions();
+        copyFromACompactedStore();
+        copyIntoAStoreWithItsOwn();
         compactOfAnEmptyStore();
         compactOfLeavesOnly();
         compactOfAChain();
+        compactOfOneStore();
         compactTwice();
         compactAfterAPurge();
         purgeOfNothing();
@@ -410,6 +413,37 @@ public final class ChangeEdgesTest {
         Checks.due("body(0, 0)", s.body(0, 0), 0);
     }
 
+    private static void copyFromACompactedStore() {
+        Checks.part("promise 5, all revisions, also those that n does not have the body of");
+        DocumentStores s = States.chain();
+        s.compact(0);
+        Checks.due("copy(0, 2)", s.copy(0, 2), 1);
+        Checks.due("agree(0, 2)", s.agree(0, 2), true);
+        Checks.due("knows(2, 0)", s.knows(2, 0), true);
+        Checks.due("body(2, 0)", s.body(2, 0), Checks.GONE);
+        Checks.due("body(2, 79)", s.body(2, 79), 79);
+        Checks.due("purge(2, 0)", s.purge(2, 0), 80);
+    }
+
+    private static void copyIntoAStoreWithItsOwn() {
+        Checks.part("promise 5, what to knows and has besides stays");
+        DocumentStores s = new DocumentStores();
+        s.edit(1, 0, 8);
+        s.edit(1, 0, 9);
+        s.edit(1, 1, 7);
+        s.edit(0, 0, 8);
+        s.edit(0, 0, 1);
+        Checks.due("copy(0, 1)", s.copy(0, 1), 1);
+        Checks.due("leaves(1, 0)", Checks.leavesOf(s, 1, 0), "1 3");
+        Checks.due("body(1, 0), no leaf in store 0", s.body(1, 0), 8);
+        Checks.due("body(1, 1), not known in store 0", s.body(1, 1), 9);
+        Checks.due("body(1, 3)", s.body(1, 3), 1);
+        Checks.due("winner(1, 1)", s.winner(1, 1), 2);
+        Checks.due("stamp(1, 1)", s.stamp(1, 1), 3);
+        Checks.due("knows(0, 1)", s.knows(0, 1), false);
+        Checks.due("count(0)", s.count(0), 2);
+    }
+
     private static void compactOfAnEmptyStore() {
         Checks.part("promise 6, a store that knows nothing");
         for (int n = 0; n < 3; n++) {
@@ -443,6 +477,21 @@ public final class ChangeEdgesTest {
         }
         Checks.due("winner(0, 0)", s.winner(0, 0), 79);
         Checks.due("count(0)", s.count(0), 80);
+    }
+
+    private static void compactOfOneStore() {
+        Checks.part("promise 6, other stores keep their bodies");
+        DocumentStores s = new DocumentStores();
+        for (int n = 0; n < 3; n++) {
+            s.edit(n, 0, 1);
+            s.edit(n, 0, 2);
+        }
+        Checks.due("compact(1)", s.compact(1), 1);
+        Checks.due("body(0, 0)", s.body(0, 0), 1);
+        Checks.due("body(1, 0)", s.body(1, 0), Checks.GONE);
+        Checks.due("body(2, 0)", s.body(2, 0), 1);
+        Checks.due("compact(0)", s.compact(0), 1);
+        Checks.due("compact(2)", s.compact(2), 1);
     }
 
     private static void compactTwice() {

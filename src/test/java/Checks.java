@@ -6,8 +6,6 @@ final class Checks {
     static final int GONE = DocumentStores.GONE;
     static final int MIN = Integer.MIN_VALUE;
     static final int MAX = Integer.MAX_VALUE;
-    static final int[] NO_STORES = {-1, 3, MIN, MAX};
-    static final int[] NO_DOCUMENTS = {-1, 8, MIN, MAX};
 
     private static int checked = 0;
     private static int wrong = 0;
@@ -70,38 +68,5 @@ final class Checks {
             text.append(k == 0 ? "" : " ").append(s.viewed(n, k));
         }
         return text.toString();
-    }
-
-    /** All that can be asked of an object with few revisions, as a text. */
-    static String stateOf(DocumentStores s) {
-        StringBuilder text = new StringBuilder("made " + s.revisions());
-        for (int r = 0; r < s.revisions(); r++) {
-            text.append("; r").append(r);
-            for (int what = 0; what < 4; what++) {
-                text.append(' ').append(s.revision(r, what));
-            }
-            for (int n = 0; n < 3; n++) {
-                text.append(' ').append(s.body(n, r));
-            }
-        }
-        for (int n = 0; n < 3; n++) {
-            text.append("; store ").append(n).append(" count ").append(s.count(n));
-            text.append(" conflicts ").append(s.conflicts(n)).append(" total ").append(s.total(n));
-            text.append(" view ").append(viewOf(s, n));
-            for (int d = 0; d < 8; d++) {
-                text.append(" [").append(s.winner(n, d)).append(' ').append(s.stamp(n, d));
-                text.append(' ').append(leavesOf(s, n, d)).append(']');
-            }
-        }
-        return text.toString();
-    }
-
-    /** An object on which 80 revisions were made: a chain of document 0 in store 0, values 0 to 79. */
-    static DocumentStores full() {
-        DocumentStores s = new DocumentStores();
-        for (int x = 0; x < 80; x++) {
-            s.edit(0, 0, x);
-        }
-        return s;
     }
 }

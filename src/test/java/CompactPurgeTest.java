@@ -6,8 +6,6 @@ public final class CompactPurgeTest {
         compactChangesNothingElse();
         purgeForgets();
         purgeKeepsTheCount();
-        purgeRefusals();
-        ranges();
         Checks.end();
     }
 
@@ -94,29 +92,5 @@ public final class CompactPurgeTest {
         Checks.due("count(0)", s.count(0), 2);
         s.edit(0, 1, 1);
         Checks.due("stamp(0, 1)", s.stamp(0, 1), 3);
-    }
-
-    private static void purgeRefusals() {
-        Checks.part("promise 7, NONE");
-        DocumentStores s = new DocumentStores();
-        s.edit(0, 0, 1);
-        Checks.due("purge(1, 0)", s.purge(1, 0), Checks.NONE);
-        Checks.due("purge(0, 1)", s.purge(0, 1), Checks.NONE);
-        Checks.due("purge(0, 0)", s.purge(0, 0), 1);
-        Checks.due("purge(0, 0)", s.purge(0, 0), Checks.NONE);
-    }
-
-    private static void ranges() {
-        Checks.part("promises 6 and 7, BAD_ARG");
-        DocumentStores s = Checks.full();
-        for (int n : Checks.NO_STORES) {
-            Checks.due("compact(" + n + ")", s.compact(n), Checks.BAD_ARG);
-            Checks.due("purge(" + n + ", 0)", s.purge(n, 0), Checks.BAD_ARG);
-        }
-        for (int d : Checks.NO_DOCUMENTS) {
-            Checks.due("purge(0, " + d + ")", s.purge(0, d), Checks.BAD_ARG);
-        }
-        Checks.due("compact(0)", s.compact(0), 79);
-        Checks.due("purge(0, 0)", s.purge(0, 0), 80);
     }
 }

@@ -8,7 +8,6 @@ public final class CopyTest {
         takesDocumentsByTheirStamps();
         countsDocumentsWithNews();
         bringsBackWhatWasPurged();
-        ranges();
         Checks.end();
     }
 
@@ -131,22 +130,5 @@ public final class CopyTest {
         Checks.due("stamp(0, 3)", s.stamp(0, 3), 4);
         Checks.due("body(0, 0)", s.body(0, 0), Checks.GONE);
         Checks.due("body(0, 1)", s.body(0, 1), 2);
-    }
-
-    private static void ranges() {
-        Checks.part("promises 5 and 23, BAD_ARG");
-        DocumentStores s = new DocumentStores();
-        s.edit(0, 0, 1);
-        for (int n = 0; n < 3; n++) {
-            Checks.due("copy(" + n + ", " + n + ")", s.copy(n, n), Checks.BAD_ARG);
-        }
-        for (int n : Checks.NO_STORES) {
-            Checks.due("copy(" + n + ", 0)", s.copy(n, 0), Checks.BAD_ARG);
-            Checks.due("copy(0, " + n + ")", s.copy(0, n), Checks.BAD_ARG);
-            Checks.due("copy(" + n + ", " + n + ")", s.copy(n, n), Checks.BAD_ARG);
-        }
-        Checks.due("count(1)", s.count(1), 0);
-        Checks.due("copy(0, 1)", s.copy(0, 1), 1);
-        Checks.due("copy(0, 2)", s.copy(0, 2), 1);
     }
 }

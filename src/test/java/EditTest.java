@@ -6,13 +6,9 @@ public final class EditTest {
         editGoesOnFromAMark();
         editFollowsTheWinner();
         editAgainAfterPurge();
-        editWhenFull();
         editLeafPicksTheParent();
-        editLeafRefusals();
         deleteMakesMarks();
         deleteIsNotAnEditToZero();
-        deleteRefusals();
-        ranges();
         Checks.end();
     }
 
@@ -84,23 +80,6 @@ public final class EditTest {
         Checks.due("stamp(0, 0)", s.stamp(0, 0), 4);
     }
 
-    private static void editWhenFull() {
-        Checks.part("promise 2, FULL");
-        DocumentStores s = Checks.full();
-        Checks.due("revisions()", s.revisions(), 80);
-        Checks.due("edit(0, 0, 5)", s.edit(0, 0, 5), Checks.FULL);
-        Checks.due("edit(1, 1, 5)", s.edit(1, 1, 5), Checks.FULL);
-        Checks.due("edit(1, 0, 1)", s.edit(1, 0, 1), Checks.FULL);
-        Checks.due("edit(1, 0, 0)", s.edit(1, 0, 0), 0);
-        Checks.due("edit(1, 0, 1)", s.edit(1, 0, 1), 1);
-        Checks.due("edit(1, 0, 1)", s.edit(1, 0, 1), Checks.FULL);
-        Checks.due("revisions()", s.revisions(), 80);
-        Checks.due("count(0)", s.count(0), 80);
-        Checks.due("count(1)", s.count(1), 2);
-        Checks.due("stamp(1, 1)", s.stamp(1, 1), 0);
-        Checks.due("winner(1, 0)", s.winner(1, 0), 1);
-    }
-
     /** Store 0 knows 0 (value 1), 1 (value 5), 2 (value 3) of document 2, all first ones. */
     private static DocumentStores threeFirst() {
         DocumentStores s = new DocumentStores();
@@ -130,23 +109,6 @@ public final class EditTest {
         Checks.due("revision(6, 1)", s.revision(6, 1), 5);
     }
 
-    private static void editLeafRefusals() {
-        Checks.part("promise 3, NONE and FULL");
-        DocumentStores s = threeFirst();
-        Checks.due("editLeaf(0, 2, 3, 1)", s.editLeaf(0, 2, 3, 1), Checks.NONE);
-        Checks.due("editLeaf(0, 2, -1, 1)", s.editLeaf(0, 2, -1, 1), Checks.NONE);
-        Checks.due("editLeaf(0, 2, MIN, 1)", s.editLeaf(0, 2, Checks.MIN, 1), Checks.NONE);
-        Checks.due("editLeaf(0, 2, MAX, 1)", s.editLeaf(0, 2, Checks.MAX, 1), Checks.NONE);
-        Checks.due("editLeaf(0, 3, 0, 1)", s.editLeaf(0, 3, 0, 1), Checks.NONE);
-        Checks.due("revisions()", s.revisions(), 3);
-        DocumentStores f = Checks.full();
-        Checks.due("editLeaf(0, 0, 1, 1) when full", f.editLeaf(0, 0, 1, 1), Checks.NONE);
-        Checks.due("editLeaf(0, 1, 0, 1) when full", f.editLeaf(0, 1, 0, 1), Checks.NONE);
-        Checks.due("editLeaf(0, 0, 0, 1) when full", f.editLeaf(0, 0, 0, 1), Checks.FULL);
-        f.edit(1, 0, 0);
-        Checks.due("editLeaf(1, 0, 0, 1) when full", f.editLeaf(1, 0, 0, 1), 1);
-    }
-
     private static void deleteMakesMarks() {
         Checks.part("promise 4, marks");
         DocumentStores s = threeFirst();
@@ -172,45 +134,5 @@ public final class EditTest {
         Checks.due("delete(1, 0, 0)", s.delete(1, 0, 0), 2);
         Checks.due("revision(1, 3)", s.revision(1, 3), 0);
         Checks.due("revision(2, 3)", s.revision(2, 3), 1);
-    }
-
-    private static void deleteRefusals() {
-        Checks.part("promise 4, NONE and FULL");
-        DocumentStores s = threeFirst();
-        Checks.due("delete(0, 2, 3)", s.delete(0, 2, 3), Checks.NONE);
-        Checks.due("delete(0, 2, -1)", s.delete(0, 2, -1), Checks.NONE);
-        Checks.due("delete(0, 2, MIN)", s.delete(0, 2, Checks.MIN), Checks.NONE);
-        Checks.due("delete(0, 3, 0)", s.delete(0, 3, 0), Checks.NONE);
-        Checks.due("delete(0, 2, 0)", s.delete(0, 2, 0), 3);
-        Checks.due("delete(0, 2, 0)", s.delete(0, 2, 0), Checks.NONE);
-        Checks.due("revisions()", s.revisions(), 4);
-        DocumentStores f = new DocumentStores();
-        f.edit(0, 1, 7);
-        f.delete(0, 1, 0);
-        for (int x = 0; x < 78; x++) {
-            f.edit(0, 0, x);
-        }
-        Checks.due("revisions()", f.revisions(), 80);
-        Checks.due("delete(0, 0, 1) when full", f.delete(0, 0, 1), Checks.NONE);
-        Checks.due("delete of a mark when full", f.delete(0, 1, 0), Checks.NONE);
-        Checks.due("delete(0, 0, 0) when full", f.delete(0, 0, 0), Checks.FULL);
-        f.edit(1, 1, 7);
-        Checks.due("a delete made before, when full", f.delete(1, 1, 0), 1);
-    }
-
-    private static void ranges() {
-        Checks.part("promises 2 to 4, BAD_ARG");
-        for (DocumentStores s : new DocumentStores[] {threeFirst(), Checks.full()}) {
-            for (int n : Checks.NO_STORES) {
-                Checks.due("edit(" + n + ", 0, 1)", s.edit(n, 0, 1), Checks.BAD_ARG);
-                Checks.due("editLeaf(" + n + ", 0, 9, 1)", s.editLeaf(n, 0, 9, 1), Checks.BAD_ARG);
-                Checks.due("delete(" + n + ", 0, 9)", s.delete(n, 0, 9), Checks.BAD_ARG);
-            }
-            for (int d : Checks.NO_DOCUMENTS) {
-                Checks.due("edit(0, " + d + ", 1)", s.edit(0, d, 1), Checks.BAD_ARG);
-                Checks.due("editLeaf(0, " + d + ", 9, 1)", s.editLeaf(0, d, 9, 1), Checks.BAD_ARG);
-                Checks.due("delete(0, " + d + ", 9)", s.delete(0, d, 9), Checks.BAD_ARG);
-            }
-        }
     }
 }

@@ -7,10 +7,8 @@ public final class LeavesTest {
         aMarkComesAfterTheSameValue();
         marksLoseUnlessAlone();
         documentsAreApart();
-        leafRefusals();
         conflicts();
         countAndStamp();
-        ranges();
         Checks.end();
     }
 
@@ -117,17 +115,6 @@ public final class LeavesTest {
         Checks.due("leaf(0, 7, 0)", s.leaf(0, 7, 0), 1);
     }
 
-    private static void leafRefusals() {
-        Checks.part("promise 14, NONE");
-        DocumentStores s = new DocumentStores();
-        s.edit(0, 0, 1);
-        for (int k : new int[] {-1, 1, 80, Checks.MIN, Checks.MAX, Checks.NONE}) {
-            Checks.due("leaf(0, 0, " + k + ")", s.leaf(0, 0, k), Checks.NONE);
-            Checks.due("leaf(0, 1, " + k + ")", s.leaf(0, 1, k), Checks.NONE);
-        }
-        Checks.due("leaf(0, 0, 0)", s.leaf(0, 0, 0), 0);
-    }
-
     private static void conflicts() {
         Checks.part("promise 15");
         DocumentStores s = new DocumentStores();
@@ -186,24 +173,5 @@ public final class LeavesTest {
         Checks.due("stamp(0, 5)", s.stamp(0, 5), 4);
         Checks.due("count(0)", s.count(0), 5);
         Checks.due("count(2)", s.count(2), 0);
-    }
-
-    private static void ranges() {
-        Checks.part("promises 12 to 17, BAD_ARG");
-        DocumentStores s = Checks.full();
-        for (int n : Checks.NO_STORES) {
-            Checks.due("winner(" + n + ", 0)", s.winner(n, 0), Checks.BAD_ARG);
-            Checks.due("leaves(" + n + ", 0)", s.leaves(n, 0), Checks.BAD_ARG);
-            Checks.due("leaf(" + n + ", 0, -1)", s.leaf(n, 0, -1), Checks.BAD_ARG);
-            Checks.due("stamp(" + n + ", 0)", s.stamp(n, 0), Checks.BAD_ARG);
-            Checks.due("conflicts(" + n + ")", s.conflicts(n), Checks.BAD_ARG);
-            Checks.due("count(" + n + ")", s.count(n), Checks.BAD_ARG);
-        }
-        for (int d : Checks.NO_DOCUMENTS) {
-            Checks.due("winner(0, " + d + ")", s.winner(0, d), Checks.BAD_ARG);
-            Checks.due("leaves(0, " + d + ")", s.leaves(0, d), Checks.BAD_ARG);
-            Checks.due("leaf(0, " + d + ", -1)", s.leaf(0, d, -1), Checks.BAD_ARG);
-            Checks.due("stamp(0, " + d + ")", s.stamp(0, d), Checks.BAD_ARG);
-        }
     }
 }

@@ -19,6 +19,9 @@ public final class NewObjectTest {
         Checks.part("promise 1");
         DocumentStores s = new DocumentStores();
         Checks.due("revisions()", s.revisions(), 0);
+        for (int what = 0; what < 4; what++) {
+            Checks.due("revision(0, " + what + ")", s.revision(0, what), Checks.NONE);
+        }
         for (int n = 0; n < 3; n++) {
             Checks.due("knows(" + n + ", 0)", s.knows(n, 0), false);
             Checks.due("body(" + n + ", 0)", s.body(n, 0), Checks.NONE);

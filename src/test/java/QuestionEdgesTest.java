@@ -1,3 +1,5 @@
+import java.util.Arrays;
+
 /** Promises 8 to 22: the boundary cases of the questions, one by one. */
 public final class QuestionEdgesTest {
     private static final int[] WRONG = {-1, Checks.MIN, Checks.MAX, Checks.NONE, 256, 65536, 1 << 28};
@@ -39,11 +41,12 @@ public final class QuestionEdgesTest {
         agreeWithNoStore();
         agreeWithOneRevisionMore();
         agreeLooksAtRevisionsAlone();
+        agreeLooksAtAllRevisions();
         Checks.end();
     }
 
     private static int[] wrongFrom(int first) {
-        int[] all = java.util.Arrays.copyOf(WRONG, WRONG.length + 2);
+        int[] all = Arrays.copyOf(WRONG, WRONG.length + 2);
         all[WRONG.length] = first;
         all[WRONG.length + 1] = first + 1;
         return all;
@@ -460,6 +463,8 @@ public final class QuestionEdgesTest {
         Checks.due("total(1)", s.total(1), 0);
         s.purge(1, 4);
         Checks.due("total(1)", s.total(1), Checks.MIN);
+        s.edit(2, 4, Checks.BAD_ARG);
+        Checks.due("total(2), a value like a code", s.total(2), Checks.BAD_ARG);
     }
 
     private static void agreeOfEmptyStores() {
@@ -529,5 +534,21 @@ public final class QuestionEdgesTest {
         Checks.due("body(1, 0)", s.body(1, 0), Checks.GONE);
         Checks.due("agree(0, 1)", s.agree(0, 1), true);
         Checks.due("agree(1, 0)", s.agree(1, 0), true);
+    }
+
+    private static void agreeLooksAtAllRevisions() {
+        Checks.part("promise 22, the same winner and stamps, but another leaf");
+        DocumentStores s = new DocumentStores();
+        s.edit(0, 0, 9);
+        s.edit(1, 0, 9);
+        s.edit(2, 0, 1);
+        s.copy(2, 0);
+        s.purge(2, 0);
+        s.edit(2, 0, 2);
+        s.copy(2, 1);
+        Checks.due("winner(0, 0)", s.winner(0, 0), s.winner(1, 0));
+        Checks.due("stamp(0, 0)", s.stamp(0, 0), s.stamp(1, 0));
+        Checks.due("leaves(0, 0)", s.leaves(0, 0), s.leaves(1, 0));
+        Checks.due("agree(0, 1)", s.agree(0, 1), false);
     }
 }

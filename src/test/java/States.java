@@ -72,7 +72,12 @@ final class States {
             refused.accept(s);
             return s;
         };
-        Checks.due("all that can be asked after " + calls, all(after), all(start));
+        String[] got = all(after).split("\n");
+        String[] want = all(start).split("\n");
+        Checks.due("lines about the object after " + calls, got.length, want.length);
+        for (int i = 0; i < Math.min(got.length, want.length); i++) {
+            Checks.due("the object after " + calls, got[i], want[i]);
+        }
     }
 
     /** Asks each part of a new object, as one object is there for at most 512 calls. */
@@ -91,7 +96,7 @@ final class States {
     private static String revisionsOf(DocumentStores s, int from, int end) {
         StringBuilder text = new StringBuilder();
         for (int r = from; r < end; r++) {
-            text.append("\n  revision ").append(r).append(':');
+            text.append("\nrevision ").append(r).append(':');
             for (int what = 0; what < 4; what++) {
                 text.append(' ').append(s.revision(r, what));
             }
@@ -103,7 +108,7 @@ final class States {
     }
 
     private static String storeOf(DocumentStores s, int n) {
-        StringBuilder text = new StringBuilder("\n  store " + n + ": count " + s.count(n));
+        StringBuilder text = new StringBuilder("\nstore " + n + ": count " + s.count(n));
         text.append(" conflicts ").append(s.conflicts(n)).append(" total ").append(s.total(n));
         text.append(" view ").append(Checks.viewOf(s, n));
         for (int d = 0; d < 8; d++) {
@@ -115,7 +120,7 @@ final class States {
 
     /** What later changes answer, for what no question shows. */
     private static String later(DocumentStores s) {
-        StringBuilder text = new StringBuilder("\n  later:");
+        StringBuilder text = new StringBuilder("\nlater:");
         for (int d = 0; d < 8; d++) {
             text.append(' ').append(s.edit(d % 3, d, 1000 + d));
             text.append(' ').append(s.delete((d + 1) % 3, d, 0));

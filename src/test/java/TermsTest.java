@@ -292,17 +292,25 @@ public final class TermsTest {
 
     private static void aMarkOnThePathDecides() {
         Checks.part("of several that with the last path, 1 for a mark, else 0");
-        DocumentStores s = States.fan(0, 5);
-        s.copy(0, 1);
-        s.edit(0, 0, 0);
-        s.delete(1, 0, 0);
-        s.edit(0, 0, 8);
-        s.edit(1, 0, 4);
-        s.copy(1, 0);
-        s.copy(0, 1);
-        Checks.due("leaves in store 0", Checks.leavesOf(s, 0, 0), "4 3");
-        Checks.due("leaves in store 1", Checks.leavesOf(s, 1, 0), "4 3");
-        Checks.due("winner", s.winner(0, 0), 4);
+        for (int marked = 0; marked < 2; marked++) {
+            DocumentStores s = States.fan(0, 5);
+            s.copy(0, 1);
+            for (int n = 0; n < 2; n++) {
+                int r = n == marked ? s.delete(n, 0, 0) : s.edit(n, 0, 0);
+                Checks.due("a mark or the value 0", r, n + 1);
+            }
+            s.copy(0, 2);
+            s.copy(1, 2);
+            String due = marked == 0 ? "1 2" : "2 1";
+            Checks.due("leaves, the mark before the value 0", Checks.leavesOf(s, 2, 0), due);
+            s.edit(1 - marked, 0, 8);
+            s.edit(marked, 0, 4);
+            s.copy(0, 1);
+            s.copy(1, 0);
+            Checks.due("leaves in store 0", Checks.leavesOf(s, 0, 0), "4 3");
+            Checks.due("leaves in store 1", Checks.leavesOf(s, 1, 0), "4 3");
+            Checks.due("winner", s.winner(0, 0), 4);
+        }
     }
 
     private static void aDocumentExistsWithAWinnerThatIsNoMark() {
