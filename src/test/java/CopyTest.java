@@ -1,4 +1,4 @@
-/** Promises 5 and 23: copy. */
+/** Promise 5: copy. ChangeEdgesTest has promise 23. */
 public final class CopyTest {
     public static void main(String[] args) {
         copiesAllRevisions();

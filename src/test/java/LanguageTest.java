@@ -1,9 +1,15 @@
+import com.sun.source.tree.ClassTree;
 import com.sun.source.tree.CompilationUnitTree;
 import com.sun.source.tree.ExpressionTree;
+import com.sun.source.tree.ForLoopTree;
 import com.sun.source.tree.IdentifierTree;
 import com.sun.source.tree.MethodInvocationTree;
 import com.sun.source.tree.MethodTree;
+import com.sun.source.tree.NewArrayTree;
+import com.sun.source.tree.StatementTree;
 import com.sun.source.tree.Tree;
+import com.sun.source.tree.TypeCastTree;
+import com.sun.source.tree.VariableTree;
 import com.sun.source.util.JavacTask;
 import com.sun.source.util.SourcePositions;
 import com.sun.source.util.TreeScanner;
@@ -42,12 +48,19 @@ public final class LanguageTest {
         int.class, long.class, short.class, byte.class, char.class, boolean.class,
         int[].class, long[].class, short[].class, byte[].class, char[].class, boolean[].class);
 
+    private static final Set<String> TYPE_NAMES =
+        TYPES.stream().map(Class::getSimpleName).collect(Collectors.toSet());
+
+    /** A member select would name a class of the library; loops are all counted for loops. */
     private static final Set<Tree.Kind> BANNED = EnumSet.of(
         Tree.Kind.PACKAGE, Tree.Kind.IMPORT, Tree.Kind.NEW_CLASS, Tree.Kind.THROW, Tree.Kind.TRY,
+        Tree.Kind.MEMBER_SELECT, Tree.Kind.ANNOTATION, Tree.Kind.WHILE_LOOP, Tree.Kind.DO_WHILE_LOOP,
         Tree.Kind.SYNCHRONIZED, Tree.Kind.ASSERT, Tree.Kind.INSTANCE_OF,
         Tree.Kind.LAMBDA_EXPRESSION, Tree.Kind.MEMBER_REFERENCE, Tree.Kind.STRING_LITERAL,
         Tree.Kind.NULL_LITERAL, Tree.Kind.FLOAT_LITERAL, Tree.Kind.DOUBLE_LITERAL,
         Tree.Kind.INTERFACE, Tree.Kind.ENUM, Tree.Kind.RECORD);
+
+    private static final Set<String> statics = new TreeSet<>();
 
     public static void main(String[] args) throws IOException {
         publicMembers();
@@ -94,10 +107,16 @@ public final class LanguageTest {
             int modifiers = f.getModifiers();
             Checks.due(f + " has an allowed type", TYPES.contains(f.getType()), true);
             if (Modifier.isStatic(modifiers)) {
+                boolean number = f.getType() == int.class || f.getType() == long.class;
                 Checks.due(f + " final", Modifier.isFinal(modifiers), true);
-                Checks.due(f + " an array", f.getType().isArray(), false);
+                Checks.due(f + " an int or a long", number, true);
+                statics.add(f.getName());
             } else {
                 variable++;
+            }
+            if (f.getType().isArray()) {
+                Checks.due(f + " final, so that no method assigns to it",
+                    Modifier.isFinal(modifiers), true);
             }
             if (Modifier.isPublic(modifiers)) {
                 constants.add(f.getName());
@@ -147,11 +166,62 @@ public final class LanguageTest {
             if (tree != null) {
                 Checks.part("rules 2, 3, 4 and 6");
                 Checks.due(at(tree) + "banned " + tree.getKind(), BANNED.contains(tree.getKind()), false);
-                if (tree.getKind() == Tree.Kind.NEW_ARRAY) {
-                    Checks.due(at(tree) + "an array made in a method", method != null, false);
-                }
             }
             return super.scan(tree, nothing);
+        }
+
+        @Override
+        public Void visitClass(ClassTree tree, Void nothing) {
+            Checks.part("rules 1 and 5");
+            for (Tree member : tree.getMembers()) {
+                Checks.due(at(member) + "an initialiser", member.getKind() == Tree.Kind.BLOCK, false);
+            }
+            return super.visitClass(tree, nothing);
+        }
+
+        @Override
+        public Void visitVariable(VariableTree tree, Void nothing) {
+            Checks.part("rule 2");
+            String type = tree.getType().toString();
+            Checks.due(at(tree) + "a variable of type " + type, TYPE_NAMES.contains(type), true);
+            return super.visitVariable(tree, nothing);
+        }
+
+        @Override
+        public Void visitTypeCast(TypeCastTree tree, Void nothing) {
+            Checks.part("rule 6");
+            Checks.due(at(tree) + "a cast of a number",
+                tree.getType().getKind() == Tree.Kind.PRIMITIVE_TYPE, true);
+            return super.visitTypeCast(tree, nothing);
+        }
+
+        @Override
+        public Void visitNewArray(NewArrayTree tree, Void nothing) {
+            Checks.part("rule 4");
+            Checks.due(at(tree) + "an array made in a method", method != null, false);
+            Checks.due(at(tree) + "dimensions", tree.getDimensions().size(), 1);
+            for (ExpressionTree length : tree.getDimensions()) {
+                boolean constant = length.getKind() == Tree.Kind.INT_LITERAL
+                    || statics.contains(length.toString());
+                Checks.due(at(tree) + "a length that is a constant", constant, true);
+            }
+            return super.visitNewArray(tree, nothing);
+        }
+
+        /** Its own lines show the end: a counter of its own, compared with a bound. */
+        @Override
+        public Void visitForLoop(ForLoopTree tree, Void nothing) {
+            Checks.part("rule 8");
+            StatementTree start = tree.getInitializer().isEmpty() ? null : tree.getInitializer().get(0);
+            String counter = start instanceof VariableTree v ? v.getName().toString() : "no counter";
+            String test = String.valueOf(tree.getCondition());
+            String step = tree.getUpdate().stream().map(u -> u.getExpression().toString())
+                .collect(Collectors.joining(", "));
+            boolean rises = test.startsWith(counter + " < ") && step.equals(counter + "++");
+            boolean falls = test.startsWith(counter + " > ") && step.equals(counter + "--");
+            boolean always = !test.contains("||");
+            Checks.due(at(tree) + "a counter against a bound", always && (rises || falls), true);
+            return super.visitForLoop(tree, nothing);
         }
 
         @Override
@@ -163,6 +233,9 @@ public final class LanguageTest {
             Checks.part("rule 10");
             Checks.due(method + " has at most 60 lines", last - first < 60, true);
             Checks.due(method + " has at most 7 parameters", tree.getParameters().size() <= 7, true);
+            Checks.part("rules 2 and 4");
+            Checks.due(method + " answers no array and no object", tree.getReturnType() == null
+                || tree.getReturnType().getKind() == Tree.Kind.PRIMITIVE_TYPE, true);
             super.visitMethod(tree, nothing);
             method = null;
             return null;
